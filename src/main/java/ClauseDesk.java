@@ -279,6 +279,14 @@ public final class ClauseDesk {
         return c >= -LARGEST && c <= LARGEST;
     }
 
+    /** The point of a clause at a corner of a relation whose places have the variables x and y. */
+    private static int pointAt(int corner, int x, int y) {
+        if (corner == ZERO_CORNER) {
+            return ZERO;
+        }
+        return corner == 0 ? x : y;
+    }
+
     /** What counts for nothing is not kept, so that whatever stands in a literal is a variable. */
     private void fill(Literal literal, int r, int x, int y) {
         literal.relation = r;
@@ -409,16 +417,18 @@ public final class ClauseDesk {
 
     /** States of the round that is going on are not there yet: they are higher than the rounds made. */
     private boolean lay(BoundSet upon, BoundSet under, Clause rule, int atom, int cube) {
-        upon.copyFrom(under);
-        if (atom < rule.atoms) {
-            Literal literal = rule.body[atom];
-            Relation relation = relations[literal.relation];
-            int height = relation.height[cube];
-            if (height == 0 || height > rounds) {
-                return false;
-            }
-            relation.restrict(upon, cube, literal.x, literal.y);
+        if (atom >= rule.atoms) {
+            upon.copyFrom(under);
+            return upon.together;
         }
+        Literal literal = rule.body[atom];
+        Relation relation = relations[literal.relation];
+        int height = relation.height[cube];
+        if (height == 0 || height > rounds) {
+            return false;
+        }
+        upon.copyFrom(under);
+        relation.restrict(upon, cube, literal.x, literal.y);
         return upon.together;
     }
 
@@ -549,10 +559,10 @@ public final class ClauseDesk {
 
         /** The two points may be one, and the bound may be none (FREE). */
         void add(int u, int v, int c) {
-            if (!together || c >= leastOf(u, v)) {
+            if (!together || c >= least[u * POINTS + v]) {
                 return;
             }
-            int back = leastOf(v, u);
+            int back = least[v * POINTS + u];
             if (back != FREE && back + c < 0) {
                 together = false;
                 return;
@@ -631,13 +641,6 @@ public final class ClauseDesk {
                 }
             }
         }
-    }
-
-    private static int pointAt(int corner, int x, int y) {
-        if (corner == ZERO_CORNER) {
-            return ZERO;
-        }
-        return corner == 0 ? x : y;
     }
 
     /** A relation (NONE for FALSE) with the variables at its places. */

@@ -72,6 +72,9 @@ public final class OracleTest {
             if (random.nextInt(6) == 0) {
                 layLadder();
             }
+            if (random.nextInt(5) == 0) {
+                layClause(-1);
+            }
             if (seed % 3 != 0) {
                 laySystem(random.nextInt(relations), random.nextInt(relations));
             } else {

@@ -513,6 +513,19 @@ public final class PromisesTest {
         due("refining it", desk.refine(), 0);
         due("its bounds hold together", desk.state(2), UNSAFE);
         leastPremisesOfTheAlarm();
+        firstClauseIsFalse();
+    }
+
+    private static void firstClauseIsFalse() {
+        ClauseDesk desk = oneOfEach();
+        desk.clause(-1, 0, 0);
+        desk.atom(0, 0, 0);
+        desk.clause(0, 0, 0);
+        due("no state yet, no alarm", desk.round(), 1);
+        due("no alarm", desk.state(4), -1);
+        due("alarm", desk.round(), 0);
+        due("clause 0 can be the alarm's", desk.state(4), 0);
+        due("and its root's", desk.node(0, 0), 0);
     }
 
     private static void leastPremisesOfTheAlarm() {
