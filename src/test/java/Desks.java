@@ -149,14 +149,15 @@ final class Desks {
     }
 
     /**
-     * Four ladders of one premise a step, r(x, z): z grows by 2000 with x, fifteen times. It must
-     * not be that r(3, z), r(3, w) and z - w <= difference: 1 + 19 + 19 nodes, z = w = 30000.
+     * Four ladders of one premise a step, r(x, z): z begins with 0 and gets twice the stride with
+     * each of 18 steps. It must not be that r(3, z), r(3, w) and z - w <= difference, where both are
+     * 36 strides: 1 + 19 + 19 nodes.
      */
-    static ClauseDesk farLadder(int difference) {
+    static ClauseDesk farLadder(int stride, int difference) {
         ClauseDesk desk = relations(2, 2, 2, 2);
         for (int r = 0; r < 4; r++) {
             markSteps(desk, r);
-            layFarSteps(desk, r);
+            layFarSteps(desk, r, stride);
         }
         desk.clause(-1, 0, 0);
         desk.atom(3, 0, 1);
@@ -168,21 +169,22 @@ final class Desks {
         return desk;
     }
 
-    private static void layFarSteps(ClauseDesk desk, int r) {
+    private static void layFarSteps(ClauseDesk desk, int r, int stride) {
+        desk.clause(r, 2, 3);
+        equation(desk, 2, 5, 0);
         if (r == 0) {
-            desk.clause(0, 0, 1);
-            equation(desk, 1, 5, 0);
+            equation(desk, 3, 5, 0);
         } else {
-            desk.clause(r, 0, 1);
-            desk.atom(r - 1, 2, 1);
-            desk.bound(5, 2, -4);
+            desk.atom(r - 1, 0, 1);
+            desk.bound(5, 0, -4);
+            equation(desk, 3, 4, stride);
+            equation(desk, 4, 1, stride);
         }
-        equation(desk, 0, 5, 0);
         desk.clause(r, 2, 3);
         desk.atom(r, 0, 1);
         equation(desk, 2, 0, 1);
-        equation(desk, 3, 4, 1000);
-        equation(desk, 4, 1, 1000);
+        equation(desk, 3, 4, stride);
+        equation(desk, 4, 1, stride);
     }
 
     /**

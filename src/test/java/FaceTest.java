@@ -21,7 +21,8 @@ public final class FaceTest {
         Bench.due("final", Modifier.isFinal(modifiers) ? 1 : 0, 1);
         Bench.due("constructors", Arrays.toString(ClauseDesk.class.getDeclaredConstructors()),
                 "[public ClauseDesk()]");
-        Bench.due("methods that are not private", methods().toString(), new TreeSet<>(Arrays.asList(METHODS)).toString());
+        Set<String> due = new TreeSet<>(Arrays.asList(METHODS));
+        Bench.due("methods that are not private", methods().toString(), due.toString());
         Bench.due("fields that are not private", fields().toString(), "[NONE]");
         Field none = ClauseDesk.class.getDeclaredField("NONE");
         Bench.due("NONE", Modifier.toString(none.getModifiers()) + " " + none.getType(), "public static final int");

@@ -221,9 +221,10 @@ final class LookingSentences {
         Bench.due("forty-one, UNKNOWN", desk.state(5), 41);
         desk.start();
         Bench.due("after a fresh start", desk.state(5), 0);
-        desk.clause(-1, 0, 0);
-        desk.round();
-        Bench.due("the root alone, after forty-one", Sight.tree(desk), "5/-1/-1");
+        ClauseDesk huge = Desks.hugeTree();
+        huge.clause(-1, 0, 0);
+        huge.round();
+        Bench.due("the root alone, after very many", Sight.tree(huge), "9/-1/-1");
         Bench.due("after refining with marks", refined().state(5), 0);
     }
 

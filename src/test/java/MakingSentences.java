@@ -116,6 +116,7 @@ final class MakingSentences {
         }
         Bench.due("relation 0", Sight.marks(desk, 0), "0-2<=1000 2-0<=-1000");
         Bench.due("relation 1", Sight.marks(desk, 1), "0-1<=0 1-0<=1 1-2<=2 2-1<=3");
+        Bench.due("after two of refining", refined().mark(0, 0, 2, 50), 2);
     }
 
     /** A counter with a mark, a relation of two places without one, and a state. */

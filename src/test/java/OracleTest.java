@@ -197,7 +197,8 @@ public final class OracleTest {
             } else if (dice < 74) {
                 call("cube", random.nextInt(6) - 1, random.nextInt(18) - 1, random.nextInt(7) - 1);
             } else if (dice < 84) {
-                call("node", random.nextInt(5) == 0 ? random.nextInt(45) - 2 : random.nextInt(8), random.nextInt(5) - 1);
+                int k = random.nextInt(5) == 0 ? random.nextInt(45) - 2 : random.nextInt(8);
+                call("node", k, random.nextInt(5) - 1);
             } else if (dice < 97) {
                 look();
             } else {
@@ -419,7 +420,7 @@ public final class OracleTest {
         }
 
         boolean isMark(int u, int v, int c) {
-            return corners().contains(u) && corners().contains(v) && u != v && Math.abs(c) <= 1000;
+            return corners().contains(u) && corners().contains(v) && u != v && c >= -1000 && c <= 1000;
         }
 
         boolean hasMark(int u, int v, int c) {

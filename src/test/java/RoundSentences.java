@@ -86,6 +86,16 @@ final class RoundSentences {
         Bench.due("what the state allows: y is at most 0", reachedBeyond(0, 0), "1:2/1/1/-1");
         Bench.due("what the bounds allow: x is at least 0", reachedBeyond(1, 1), "0:2/1/1/-1");
         Bench.due("what both allow together", reachedBeyond(1, 2), "");
+        ClauseDesk two = Desks.relations(2);
+        two.mark(0, 0, 1, -1);
+        two.mark(0, 0, 1, -2);
+        two.clause(0, 0, 1);
+        Desks.equation(two, 1, 0, 1);
+        two.clause(0, 3, 1);
+        two.atom(0, 3, 4);
+        two.atom(0, 4, 1);
+        two.verify(3);
+        Bench.due("r(x, x + 1), r(x, z) if r(x, y), r(y, z)", Sight.states(two, 0), "1:1/0/-1/-1 3:2/1/1/1");
     }
 
     /** The limit 1 asks for x >= 0, 2 for x >= 1. */
@@ -283,6 +293,17 @@ final class RoundSentences {
         Bench.due("cubes 0, 2 and 3", desk.round(), 3);
         desk.round();
         Bench.due("x <= 9 forbids 0, then y is of any size", Sight.tree(desk), "1/-1/-1 0/0/2 0/0/0");
+        ClauseDesk two = Desks.relations(1, 1);
+        two.mark(0, 0, 2, 0);
+        two.mark(1, 2, 0, 0);
+        two.clause(0, 0, 0);
+        two.clause(1, 0, 0);
+        two.clause(-1, 0, 0);
+        two.atom(0, 0, 0);
+        two.atom(1, 1, 0);
+        two.bound(0, 1, 0);
+        two.verify(2);
+        Bench.due("0 and 1 come before 1 and 0", Sight.tree(two), "2/-1/-1 0/0/0 1/0/1");
     }
 
     private static void nothingBesideAlarm() {

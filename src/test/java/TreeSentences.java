@@ -99,9 +99,11 @@ final class TreeSentences {
         Bench.due("the lowest node's break it", chain(4, 5, 3).state(2), 0);
         Bench.due("the middle node's break it", chain(3, 2, 3).state(2), 0);
         Bench.due("the root's break it", chain(3, 5, 2).state(2), 0);
-        Bench.due("great sums that are equal", afterRefining(Desks.farLadder(0)).state(2), UNSAFE);
-        Bench.due("great sums that are not", afterRefining(Desks.farLadder(-1)).state(2), UNKNOWN);
-        Bench.due("of 39 nodes", Desks.farLadder(0).state(5), 39);
+        for (int stride : new int[] {1000, -1000}) {
+            Bench.due("of 39 nodes", Desks.farLadder(stride, 0).state(5), 39);
+            Bench.due("great sums that are equal", afterRefining(Desks.farLadder(stride, 0)).state(2), UNSAFE);
+            Bench.due("great sums that are not", afterRefining(Desks.farLadder(stride, -1)).state(2), UNKNOWN);
+        }
     }
 
     /** p(x) if x >= low; q(x) if p(x) and x <= middle; it must not be that q(x) and x <= top; refined. */
@@ -133,6 +135,13 @@ final class TreeSentences {
         Bench.due("y = 1", verdictOfPair(0, 1, 1), UNSAFE);
         Bench.due("y <= 0", verdictOfPair(0, -1000, 0), 0);
         Bench.due("y >= 2", verdictOfPair(0, 2, 1000), 0);
+        ClauseDesk same = Desks.relations(2);
+        same.clause(0, 0, 1);
+        same.bound(0, 1, -1);
+        same.clause(-1, 0, 0);
+        same.atom(0, 3, 3);
+        Bench.due("r(x, y) with x < y, and r(z, z)", same.verify(3), 0);
+        Bench.due("breaks", Sight.marks(same, 0), "0-1<=-1");
     }
 
     /** r(3, 1); it must not be that r(v2, v0) and the variable is between low and high. */
