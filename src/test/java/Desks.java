@@ -47,7 +47,7 @@ final class Desks {
         return desk;
     }
 
-    /** SAFE after three rounds, by the mark x <= 10: cube 1 first, cube 0 never. */
+    /** SAFE after two rounds, by the mark x <= 10: cube 1 in the first, cube 0 never. */
     static ClauseDesk safeCounter() {
         ClauseDesk desk = counter(9, 11);
         desk.mark(0, 0, 2, 10);

@@ -159,7 +159,7 @@ final class SearchSentences {
 
     private static void untilThereIsAVerdict() {
         Bench.due("SAFE in two steps", Sight.counts(Desks.safeCounter()), "1 3 1 2 -1 0 0");
-        Bench.due("UNSAFE in six", Sight.counts(Desks.unsafeCounter()), "1 3 2 3 2 3 1");
+        Bench.due("UNSAFE in seven", Sight.counts(Desks.unsafeCounter()), "1 3 2 3 2 3 1");
         Bench.due("UNKNOWN in twelve", Sight.counts(Desks.unknownCounter()), "1 3 3 4 2 4 2");
         for (int number = 3; number <= 5; number++) {
             ClauseDesk desk = Desks.inSituation(number);
