@@ -2,7 +2,6 @@ import java.util.Arrays;
 
 /** The sentences of promises 12 to 16, and the test that holds to each. */
 final class LookingSentences {
-    private static final String USE = "What it is";
     private static final String FOLLOWS = "Promise 12: follows";
     private static final String STATE = "Promise 13: state";
     private static final String SHOWN = "Promise 14: shown";
@@ -15,8 +14,6 @@ final class LookingSentences {
     }
 
     static void all() {
-        Bench.holds(USE, "An object is used for at most 512 calls after it has been made;",
-                LookingSentences::manyCalls);
         Bench.holds(FOLLOWS, "The least c so that u - v <= c follows from the bounds of clause k (u, v as in bound).",
                 LookingSentences::leastThatFollows);
         Bench.holds(FOLLOWS, "IllegalArgumentException when there is no such clause,",
@@ -53,26 +50,6 @@ final class LookingSentences {
         Bench.holds(NODE, "IllegalArgumentException when what is none of these;", LookingSentences::nodeOfNothing);
         Bench.holds(NODE, "else NoSuchElementException when there is no such node,", LookingSentences::noSuchNode);
         Bench.holds(NODE, "or there are more than 40.", LookingSentences::tooManyNodes);
-    }
-
-    /** The dearest calls, over and over: the 512th answers like the first, and so does a refused one. */
-    private static void manyCalls() {
-        ClauseDesk desk = Desks.counter(9, 11);
-        int calls = 12;
-        desk.verify(100);
-        calls++;
-        while (calls + 4 <= 511) {
-            desk.start();
-            Bench.due("verify, call " + (calls + 2), desk.verify(100), 3);
-            Bench.due("check, call " + (calls + 3), desk.check(), 2);
-            Bench.due("a wrong call, call " + (calls + 4), Bench.outcome(desk, d -> d.node(4, 0)),
-                    "NoSuchElementException");
-            calls += 4;
-        }
-        while (calls < 512) {
-            calls++;
-            Bench.due("the last node, call " + calls, desk.node(3, 2), 7);
-        }
     }
 
     private static void leastThatFollows() {

@@ -7,6 +7,7 @@ public final class SentencesTest {
     }
 
     public static void main(String[] args) {
+        UseSentences.all();
         TermsSentences.all();
         RoundSentences.all();
         TreeSentences.all();
