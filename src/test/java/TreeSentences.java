@@ -188,6 +188,8 @@ final class TreeSentences {
         Bench.due("p(0) and x >= 0", counter.refine(), 0);
         Bench.due("the alarm and its tree stay", Sight.counts(counter), "1 3 2 2 2 2 0");
         Bench.due("with their nodes", Sight.tree(counter), "2/-1/-1 0/0/0");
+        Bench.due("and the states", Sight.states(counter, 0), "0:1/0/-1/-1");
+        Bench.due("for which the alarm's clause does not hold", counter.check(), 2);
         Bench.due("no mark came", Sight.marks(counter, 0), "");
         Bench.due("p(0) and x >= 1", Desks.counter(9, 1).verify(3), 0);
     }
@@ -427,6 +429,7 @@ final class TreeSentences {
         ClauseDesk far = Desks.farValue(1001);
         Bench.due("no mark", far.refine(), 0);
         Bench.due("the alarm stays, nothing is counted", Sight.counts(far), "1 2 3 2 1 2 0");
+        Bench.due("and its tree", Sight.tree(far), "1/-1/-1 0/0/0");
         Bench.due("and the states", Sight.states(far, 0), "0:1/0/-1/-1");
         ClauseDesk unknown = Desks.unknownCounter();
         Bench.due("no room", Sight.counts(unknown), "1 3 3 4 2 4 2");
